@@ -639,12 +639,13 @@ public final class MeterSheet {
     }
 
     void clear() {
-      row.clear();
+      row.size = 0;
       count = 0;
     }
 
     void become(LabelSet other) {
-      row.become(other.row, 0, other.row.size);
+      row.size = 0;
+      row.insertSpan(0, other.row, 0, other.row.size);
       count = other.count;
     }
 
@@ -1289,7 +1290,7 @@ public final class MeterSheet {
     }
 
     void writeTotal(Child child) {
-      startSample(child, TOTAL);
+      startSample(child, TOTAL, false);
       out.pushNumber(child.number);
       writeExemplar(child.exemplarAt(0));
       out.push(LINE_END);
@@ -1299,7 +1300,7 @@ public final class MeterSheet {
       long upTo = 0;
       for (int b = 0; b < family.bucketCount(); b++) {
         upTo += child.countAt(b);
-        startWithExtra(child, BUCKET);
+        startSample(child, BUCKET, true);
         out.pushText("le=\"");
         if (b < family.boundCount) {
           out.pushNumber(family.boundAt(b));
@@ -1315,7 +1316,7 @@ public final class MeterSheet {
 
     void writeStates(Child child) {
       for (int k = 0; k < family.stateCount && k < MOST_STATES; k++) {
-        startWithExtra(child, PLAIN);
+        startSample(child, PLAIN, true);
         pushRow(family.name);
         out.pushText("=\"");
         for (int n = 0; n < family.states[k].size; n++) {
@@ -1328,29 +1329,24 @@ public final class MeterSheet {
     }
 
     void writeSample(Child child, int part, long value) {
-      startSample(child, part);
+      startSample(child, part, false);
       out.pushNumber(value);
       out.push(LINE_END);
     }
 
-    void startSample(Child child, int part) {
+    /** Writes a sample's name and labels; where one more is to come the braces stay open. */
+    void startSample(Child child, int part, boolean oneMore) {
+      boolean labelled = child.labels.count > 0;
       pushRow(family.name);
       out.pushText(Family.partText(part));
-      if (child.labels.count > 0) {
+      if (labelled || oneMore) {
         out.push('{');
-        writeLabels(child.labels);
-        out.push('}');
       }
-      out.push(' ');
-    }
-
-    void startWithExtra(Child child, int part) {
-      pushRow(family.name);
-      out.pushText(Family.partText(part));
-      out.push('{');
       writeLabels(child.labels);
-      if (child.labels.count > 0) {
-        out.push(',');
+      if (oneMore) {
+        out.pushText(labelled ? "," : "");
+      } else {
+        out.pushText(labelled ? "} " : " ");
       }
     }
 
