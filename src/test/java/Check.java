@@ -1,0 +1,151 @@
+import java.nio.charset.StandardCharsets;
+import java.util.NoSuchElementException;
+
+/** What the tests share: the count of wrong answers, and ways to put texts on a tape and take them off a sheet. */
+final class Check {
+  static final Class<?> ARGUMENT = IllegalArgumentException.class;
+  static final Class<?> STATE = IllegalStateException.class;
+  static final Class<?> UNSUPPORTED = UnsupportedOperationException.class;
+  static final Class<?> NO_ELEMENT = NoSuchElementException.class;
+  static final long MOST = 999999999999999L;
+  static final int COUNTER = 0;
+  static final int GAUGE = 1;
+  static final int HISTOGRAM = 2;
+  static final int INFO = 3;
+  static final int STATESET = 4;
+
+  private static int asked = 0;
+  private static int wrong = 0;
+
+  interface Call {
+    void run();
+  }
+
+  static void due(String what, Object want, Object got) {
+    asked++;
+    if (!want.equals(got)) {
+      wrong++;
+      System.out.println(what + ": due is <" + want + ">, answered was <" + got + ">");
+    }
+  }
+
+  static void due(String what, long want, long got) {
+    due(what, Long.valueOf(want), Long.valueOf(got));
+  }
+
+  static void dueThrow(String what, Class<?> want, Call call) {
+    Object got = "nothing thrown";
+    try {
+      call.run();
+    } catch (RuntimeException e) {
+      got = e.getClass();
+    }
+    due(what, want, got);
+  }
+
+  /** Tells what was asked, and ends with 1 if an answer was wrong. */
+  static void end() {
+    System.out.println(asked + " answers looked at, " + wrong + " wrong");
+    if (wrong != 0) {
+      System.exit(1);
+    }
+  }
+
+  /** Makes the tape a text of bytes 0 to 255. */
+  static void tape(MeterSheet x, String text) {
+    x.cut(0);
+    byte[] bytes = text.getBytes(StandardCharsets.ISO_8859_1);
+    for (int k = 0; k < bytes.length; k += 8) {
+      int n = Math.min(8, bytes.length - k);
+      long v = 0;
+      for (int i = 0; i < n; i++) {
+        v |= (bytes[k + i] & 255L) << (8 * i);
+      }
+      x.feed(n, v);
+    }
+  }
+
+  /** How many bytes the tape has: feed tells it, and cut takes the byte back. */
+  static int tapeSize(MeterSheet x) {
+    int size = x.feed(1, 0) - 1;
+    x.cut(size);
+    return size;
+  }
+
+  /** A label set as on the tape: names and values by turns. */
+  static String set(String... words) {
+    StringBuilder out = new StringBuilder();
+    for (int k = 0; k < words.length; k++) {
+      out.append(words[k]).append(k % 2 == 0 ? '\1' : '\2');
+    }
+    return out.toString();
+  }
+
+  static int family(MeterSheet x, int kind, String name, String unit, String help) {
+    tape(x, name + "\1" + unit + "\1" + help);
+    return x.family(kind);
+  }
+
+  static int family(MeterSheet x, int kind, String name) {
+    return family(x, kind, name, "", "");
+  }
+
+  static int state(MeterSheet x, int family, String text) {
+    tape(x, text);
+    return x.state(family);
+  }
+
+  static void common(MeterSheet x, String... words) {
+    tape(x, set(words));
+    x.common();
+  }
+
+  static int child(MeterSheet x, int family, String... words) {
+    tape(x, set(words));
+    return x.child(family);
+  }
+
+  static void add(MeterSheet x, int child, long v, String... exemplar) {
+    tape(x, set(exemplar));
+    x.add(child, v, true);
+  }
+
+  static void observe(MeterSheet x, int child, long v, String... exemplar) {
+    tape(x, set(exemplar));
+    x.observe(child, v, true);
+  }
+
+  /** Puts children of a histogram with as long names, labels and bounds as may be on a sheet. */
+  static void manyHistograms(MeterSheet x, int children) {
+    int h = family(x, HISTOGRAM, "abcdefghijklmnopqrstuvwx");
+    for (int b = x.familyOf(0, h, 5); b < 6 && x.familyOf(0, h, 1) == 0; b++) {
+      x.bound(h, b - MOST);
+    }
+    for (int k = 0; k < children; k++) {
+      child(x, h, "abcdefg" + (char) ('a' + k), "\\\\\\\\\\\\\\\\\\\\\\\\", "b", "\"\"\"\"\"\"\"\"\"\"\"\"", "c", "\n");
+    }
+  }
+
+  static String written(MeterSheet x, int which, int form) {
+    return latest(x, x.write(which, form));
+  }
+
+  static String latest(MeterSheet x, int size) {
+    StringBuilder out = new StringBuilder();
+    for (int k = 0; k < size; k += 8) {
+      long eight = x.text(k);
+      for (int i = 0; i < 8 && k + i < size; i++) {
+        out.append((char) (eight >>> (8 * i) & 255));
+      }
+    }
+    return out.toString();
+  }
+
+  /** The fault that reading a text finds, with its place: "0 at -1" without one. */
+  static String read(MeterSheet x, String text) {
+    tape(x, text);
+    return x.read() + " at " + x.place();
+  }
+
+  private Check() {}
+}
