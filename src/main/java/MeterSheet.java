@@ -66,6 +66,10 @@ public final class MeterSheet {
   private static final int QUOTE = 34;
   private static final int BACKSLASH = 92;
 
+  private static final int OTHER_LINE = 0;
+  private static final int TYPE_LINE = 1;
+  private static final int UNIT_LINE = 2;
+
   private static final int UPPER = 0;
   private static final int LOWER = 1;
   private static final int DIGIT = 2;
@@ -77,8 +81,8 @@ public final class MeterSheet {
   private final Row written;
   private final Sheet kept;
   private final Sheet found;
-  private final Writer writer;
-  private final Reader reader;
+  private final SheetWriter writer;
+  private final SheetReader reader;
   private final LabelSet common;
   /** The set that the tape held latest, with room for the common label beside a full one. */
   private final LabelSet taken;
@@ -89,8 +93,8 @@ public final class MeterSheet {
     written = new Row(MOST_WRITTEN);
     kept = new Sheet();
     found = new Sheet();
-    writer = new Writer(written);
-    reader = new Reader(new Scanner(tape), found);
+    writer = new SheetWriter(written);
+    reader = new SheetReader(new Cursor(tape), found);
     common = new LabelSet(1);
     taken = new LabelSet(MOST_LABELS + 1);
   }
@@ -1189,12 +1193,12 @@ public final class MeterSheet {
   }
 
   /** Writes a sheet; full tells the form that has all, 0, from the lesser one, 1. */
-  private static final class Writer {
+  private static final class SheetWriter {
     final Row out;
     Family family;
     boolean full;
 
-    Writer(Row row) {
+    SheetWriter(Row row) {
       out = row;
     }
 
@@ -1381,14 +1385,14 @@ public final class MeterSheet {
   }
 
   /** Goes over a row byte by byte; each of its methods that answers false has told the fault. */
-  private static final class Scanner {
+  private static final class Cursor {
     final Row tape;
     int at;
     int fault;
     int place;
     long number;
 
-    Scanner(Row row) {
+    Cursor(Row row) {
       tape = row;
       place = -1;
     }
@@ -1496,8 +1500,8 @@ public final class MeterSheet {
   }
 
   /** Reads the labels of a sample or of an exemplar. */
-  private static final class LabelReader {
-    final Scanner scan;
+  private static final class LabelsReader {
+    final Cursor scan;
     final LabelSet set;
     final Row label;
     final Row value;
@@ -1509,8 +1513,8 @@ public final class MeterSheet {
     int valueStart;
     boolean isExtra;
 
-    LabelReader(Scanner scanner) {
-      scan = scanner;
+    LabelsReader(Cursor cursor) {
+      scan = cursor;
       set = new LabelSet(MOST_LABELS);
       label = new Row(MOST_LABEL);
       value = new Row(MOST_BOUND_VALUE);
@@ -1519,13 +1523,11 @@ public final class MeterSheet {
 
     void clear() {
       set.clear();
-      extra.clear();
       extraPlace = -1;
     }
 
     /** Reads labels up to the closing brace, one at least; the family, if one is given, says what the one more is. */
     boolean readLabels(Family family, int most) {
-      clear();
       for (int k = 0; k <= most + 1; k++) {
         if (!readName(family) || !readValue(family) || !keepLabel(most)) {
           return false;
@@ -1579,11 +1581,11 @@ public final class MeterSheet {
   }
 
   /** Reads a text of form 0 into a sheet and stops at the first fault. */
-  private static final class Reader {
-    final Scanner scan;
-    final LabelReader labels;
+  private static final class SheetReader {
+    final Cursor scan;
+    final LabelsReader labels;
     final Sheet sheet;
-    final Scanner boundScan;
+    final Cursor boundScan;
     final Row spelled;
     Family family;
     Child child;
@@ -1600,15 +1602,15 @@ public final class MeterSheet {
     /** How many buckets or states of the child have been read, and how many observations fell to those. */
     int step;
     long upTo;
-    boolean behindType;
-    boolean behindUnit;
+    /** Which head line stands just before: TYPE_LINE, UNIT_LINE, or another or none. */
+    int lineBefore;
     boolean ended;
 
-    Reader(Scanner scanner, Sheet into) {
-      scan = scanner;
+    SheetReader(Cursor cursor, Sheet into) {
+      scan = cursor;
       sheet = into;
-      labels = new LabelReader(scanner);
-      boundScan = new Scanner(labels.extra);
+      labels = new LabelsReader(cursor);
+      boundScan = new Cursor(labels.extra);
       spelled = new Row(MOST_BOUND_VALUE);
     }
 
@@ -1616,10 +1618,8 @@ public final class MeterSheet {
       scan.begin();
       sheet.clear();
       family = null;
-      child = null;
       whole = true;
-      behindType = false;
-      behindUnit = false;
+      lineBefore = OTHER_LINE;
       ended = false;
       boolean good = true;
       for (int line = 0; good && !ended && line <= MOST_TAPE; line++) {
@@ -1703,9 +1703,7 @@ public final class MeterSheet {
       child = null;
       due = firstPart(fresh.kind);
       mayBeCreated = false;
-      open = false;
-      behindType = true;
-      behindUnit = false;
+      lineBefore = TYPE_LINE;
     }
 
     static int firstPart(int kind) {
@@ -1718,7 +1716,7 @@ public final class MeterSheet {
     }
 
     boolean readUnit(int start) {
-      if (!behindType) {
+      if (lineBefore != TYPE_LINE) {
         return scan.fail(ORDER, start);
       }
       if (!readFamilyName() || !scan.expect(' ')) {
@@ -1731,13 +1729,12 @@ public final class MeterSheet {
       if (!family.takeUnit(scan.tape, unit, scan.at)) {
         return scan.fail(UNIT, unit);
       }
-      behindType = false;
-      behindUnit = true;
+      lineBefore = UNIT_LINE;
       return scan.expect(LINE_END);
     }
 
     boolean readHelp(int start) {
-      if (!behindType && !behindUnit) {
+      if (lineBefore == OTHER_LINE) {
         return scan.fail(ORDER, start);
       }
       if (!readFamilyName() || !scan.expect(' ')) {
@@ -1754,8 +1751,7 @@ public final class MeterSheet {
       if (count > MOST_HELP) {
         return scan.fail(LONG, help);
       }
-      behindType = false;
-      behindUnit = false;
+      lineBefore = OTHER_LINE;
       return scan.expect(LINE_END);
     }
 
@@ -1770,8 +1766,7 @@ public final class MeterSheet {
 
     /** Reads a sample up to its number. */
     boolean readSample() {
-      behindType = false;
-      behindUnit = false;
+      lineBefore = OTHER_LINE;
       return readName() && readLabels() && findChild() && takeBound() && takeState() && readValue();
     }
 
@@ -1815,12 +1810,12 @@ public final class MeterSheet {
       if (sheet.findChild(familyNumber, labels.set) >= 0) {
         return scan.fail(TWICE, nameStart);
       }
-      if (sheet.childCount >= MOST_CHILDREN) {
+      Child fresh = sheet.childAt(sheet.beginChild(familyNumber, labels.set, -1));
+      if (fresh == null) {
         return scan.fail(FULL, nameStart);
       }
       first = child == null;
-      child = sheet.childAt(sheet.beginChild(familyNumber, labels.set, -1));
-      open = false;
+      child = fresh;
       step = 0;
       upTo = 0;
       return true;

@@ -121,9 +121,28 @@ final class Check {
     for (int b = x.familyOf(0, h, 5); b < 6 && x.familyOf(0, h, 1) == 0; b++) {
       x.bound(h, b - MOST);
     }
-    for (int k = 0; k < children; k++) {
-      child(x, h, "abcdefg" + (char) ('a' + k), "\\\\\\\\\\\\\\\\\\\\\\\\", "b", "\"\"\"\"\"\"\"\"\"\"\"\"", "c", "\n");
+    for (int k = x.familyOf(0, h, 1); k < children; k++) {
+      child(x, h, "abcdefg" + (char) ('a' + k), "\\".repeat(12), "b", "\"".repeat(12), "c", "\n");
     }
+  }
+
+  /** Fills a new sheet so that its text of form 0 has just so many bytes, 2000 at least. */
+  static void fillTo(MeterSheet x, int size) {
+    manyHistograms(x, 1);
+    int g = family(x, GAUGE, "g");
+    for (int n = 2; size - x.write(0, 0) > 1500; n++) {
+      manyHistograms(x, n);
+    }
+    for (char c = 'a'; size - x.write(0, 0) > 200; c++) {
+      child(x, g, "a", "\\".repeat(12), "b", "\\".repeat(11) + c, "c", "\\".repeat(12));
+    }
+    int left = size - x.write(0, 0) - 2 * "# TYPE k gauge\n# HELP k \n".length();
+    family(x, GAUGE, "k", "", helpWritten(left / 2));
+    family(x, GAUGE, "m", "", helpWritten(left - left / 2));
+  }
+
+  private static String helpWritten(int bytes) {
+    return "\\".repeat(bytes / 2) + "a".repeat(bytes % 2);
   }
 
   static String written(MeterSheet x, int which, int form) {

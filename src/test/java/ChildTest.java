@@ -8,6 +8,7 @@ public final class ChildTest {
     numbersThatAreFree();
     twentyFour();
     removing();
+    numbersUsedAgain();
     commonLabel();
     commonLabelThatMayNotBe();
     wrongCommonLabels();
@@ -27,6 +28,12 @@ public final class ChildTest {
     Check.due("an empty value", 4, Check.child(x, a, "a", ""));
     Check.due("long ones", 5, Check.child(x, a, "_2345678", "\n ~\"\\6789012", "Z", "", "A9_", "x"));
     Check.due("bytes of long ones", 8 + 12 + 2 + 3 + 3 + 3, x.childOf(0, 5, 1));
+    Check.due("the longest", 6, Check.child(x, b, "abcdefgh", "123456789012", "abcdefgi", "123456789012", "abcdefgj",
+        "123456789012"));
+    Check.due("bytes of the longest", 66, x.childOf(0, 6, 1));
+    Check.due("the longest again", 6, Check.child(x, b, "abcdefgj", "123456789012", "abcdefgi", "123456789012",
+        "abcdefgh", "123456789012"));
+    x.remove(6);
     Check.due("without labels again", 0, Check.child(x, a));
     Check.due("by rising names", "# TYPE a gauge\na 0\na{a=\"2\",ab=\"3\",b=\"1\"} 0\na{a=\"3\",ab=\"2\",b=\"1\"} 0\n"
         + "a{a=\"\"} 0\na{A9_=\"x\",Z=\"\",_2345678=\"\\n ~\\\"\\\\6789012\"} 0\n"
@@ -129,6 +136,36 @@ public final class ChildTest {
     Check.due("a new one has no total", 0, x.childOf(0, 0, 2));
     Check.due("a new one has its own time", 5, x.childOf(0, 0, 4));
     Check.due("a new one has no exemplar", 0, x.bucket(0, 0, 0, 2));
+  }
+
+  /** A child with the number of one that is gone has nothing of it. */
+  private static void numbersUsedAgain() {
+    MeterSheet x = new MeterSheet();
+    int h = Check.family(x, Check.HISTOGRAM, "h");
+    int s = Check.family(x, Check.STATESET, "s");
+    Check.state(x, s, "on");
+    for (int b = 1; b <= 6; b++) {
+      x.bound(h, b);
+    }
+    Check.child(x, h, "a", "");
+    x.tick(9);
+    for (int v = 1; v <= 7; v++) {
+      Check.observe(x, 0, v, "t", "1");
+    }
+    x.remove(0);
+    Check.child(x, h);
+    Check.due("no observations", 0, x.childOf(0, 0, 3));
+    Check.due("no sum", 0, x.childOf(0, 0, 2));
+    for (int b = 0; b < 7; b++) {
+      for (int what = 1; what < 6; what++) {
+        Check.due("bucket " + b + " " + what, 0, x.bucket(0, 0, b, what));
+      }
+    }
+    Check.child(x, s);
+    x.turn(1, 0, true);
+    x.remove(1);
+    Check.child(x, s);
+    Check.due("no state is on", 0, x.childOf(0, 1, 5));
   }
 
   private static void commonLabel() {

@@ -26,6 +26,8 @@ public final class ReadTest {
 
   public static void main(String[] args) {
     placeAndTapeBehindReading();
+    readingAgain();
+    theLastByteOfTexts();
     lines();
     types();
     units();
@@ -56,7 +58,9 @@ public final class ReadTest {
   private static void fault(int fault, String marked) {
     int place = marked.indexOf('~');
     String text = marked.substring(0, place) + marked.substring(place + 1);
-    Check.due("<" + marked + ">", fault + " at " + place, Check.read(new MeterSheet(), text));
+    MeterSheet x = new MeterSheet();
+    Check.due("<" + marked + ">", fault + " at " + place, Check.read(x, text));
+    Check.due("<" + marked + "> leaves nothing", 0, x.look(1, 0) + x.look(1, 1) + x.look(1, 2));
   }
 
   private static void placeAndTapeBehindReading() {
@@ -73,6 +77,37 @@ public final class ReadTest {
     Check.due("the sheet is empty again", 0, x.look(1, 0) + x.look(1, 1));
     Check.dueThrow("no child", Check.NO_ELEMENT, () -> x.childOf(1, 0, 0));
     Check.due("an empty tape", "1 at 0", Check.read(x, ""));
+  }
+
+  /** What an earlier text has left behind must not show in the next one. */
+  private static void readingAgain() {
+    MeterSheet x = new MeterSheet();
+    String unit = "# TYPE a_s counter\n# UNIT a_s s\n";
+    Check.due("a text that ends behind TYPE", "1 at 17", Check.read(x, A));
+    Check.due("no UNIT behind nothing", "5 at 0", Check.read(x, "# UNIT a a\n"));
+    Check.due("a text that ends behind UNIT", "1 at 32", Check.read(x, unit));
+    Check.due("no HELP behind nothing", "5 at 0", Check.read(x, "# HELP a_s a\n"));
+    Check.due("no sample behind nothing", "5 at 0", Check.read(x, "a_s_total 1\n"));
+    Check.due("a child that is not whole", "1 at 41", Check.read(x, H + INF + "1\n"));
+    Check.due("an end behind nothing", "0 at -1", Check.read(x, EOF));
+    for (int k = 0; k < 2; k++) {
+      Check.due("states", "0 at -1", Check.read(x, S + "s{s=\"a\"} 1\ns{s=\"b\"} 1\n" + EOF));
+      Check.due("two of them", 2, x.familyOf(1, 0, 6));
+      Check.due("bounds", "0 at -1", Check.read(x, H + "h_bucket{le=\"1\"} 1 # {a=\"\"} 1 1\n" + INF
+          + "1\nh_count 1\nh_sum 1\nh_created 1\n" + EOF));
+      Check.due("one of them", 1, x.familyOf(1, 0, 5));
+      Check.due("no states", 0, x.familyOf(1, 0, 6));
+      Check.due("an info", "0 at -1", Check.read(x, I + "i_info 1\n" + EOF));
+      Check.due("without bounds", 0, x.familyOf(1, 0, 5));
+      Check.due("without anything", 0, x.childOf(1, 0, 2) + x.childOf(1, 0, 3) + x.childOf(1, 0, 5) + x.look(1, 2));
+    }
+  }
+
+  private static void theLastByteOfTexts() {
+    MeterSheet x = new MeterSheet();
+    Check.due("byte 126", "0 at -1", Check.read(x, G + "# HELP g ~ \n" + "g{a=\"~ \"} 1\n" + EOF));
+    Check.due("byte 127", "1 at 24", Check.read(x, G + "# HELP g \177\n"));
+    Check.due("byte 31", "1 at 20", Check.read(x, G + "g{a=\"\37\"} 1\n"));
   }
 
   private static void lines() {
@@ -123,6 +158,8 @@ public final class ReadTest {
     good(A + G + H + I + S + EOF);
     fault(SYNTAX, "# TYPE~");
     fault(SYNTAX, "# TYPE~\n");
+    fault(SYNTAX, "# TYPE~a counter\n");
+    fault(SYNTAX, "# TYPE a~# EOF\n");
     fault(NAME, "# TYPE ~");
     fault(NAME, "# TYPE ~ counter\n");
     fault(NAME, "# TYPE ~9a counter\n");
@@ -162,6 +199,7 @@ public final class ReadTest {
     fault(ORDER, b + "# HELP b_s s\n~# UNIT b_s s\n");
     fault(ORDER, b + "b_s_total 1\n~# UNIT b_s s\n");
     fault(SYNTAX, b + "# UNIT~");
+    fault(SYNTAX, b + "# UNIT~b_s s\n");
     fault(NAME, b + "# UNIT ~");
     fault(NAME, b + "# UNIT ~ s\n");
     fault(NAME, b + "# UNIT ~b s\n");
@@ -186,6 +224,8 @@ public final class ReadTest {
     good(A + "# HELP a it's {all} so # \\n\\\"\\\\\n" + EOF);
     fault(ORDER, "~# HELP a s\n");
     fault(ORDER, A + "# HELP a s\n~# HELP a s\n");
+    fault(ORDER, "# TYPE b_s counter\n# UNIT b_s s\n# HELP b_s s\n~# HELP b_s s\n");
+    fault(ORDER, "# TYPE b_s counter\n# UNIT b_s s\nb_s_total 1\n~# HELP b_s s\n");
     fault(ORDER, A + "a_total 1\n~# HELP a s\n");
     fault(SYNTAX, A + "# HELP~\n");
     fault(NAME, A + "# HELP ~a_total s\n");
@@ -244,6 +284,8 @@ public final class ReadTest {
     fault(NAME, A + "~a_totals 1\n");
     fault(NAME, A + "~9 1\n");
     fault(NAME, A + "a_total 1\na_created 1\n~a_created 1\n");
+    fault(NAME, A + "a_total 1\n# TYPE b counter\n~b_created 1\n");
+    fault(NAME, A + "a_total 1\n# TYPE b counter\n~a_created 1\n");
     good(A + "a_total 1\na_created 1\na_total{x=\"\"} 1\na_total{y=\"\"} 1\na_created{y=\"\"} 1\n" + EOF);
     fault(NAME, G + "g 1\n~g_created 1\n");
     fault(NAME, G + "~g_total 1\n");
@@ -283,6 +325,7 @@ public final class ReadTest {
     fault(SYNTAX, G + "g{a=\"\",~} 1\n");
     fault(SYNTAX, G + "g{a=\"\",~ b=\"\"} 1\n");
     fault(SYNTAX, G + "g{a=\"\"}~1\n");
+    fault(SYNTAX, G + "g{a=\"\"}~\n" + EOF);
     fault(SYNTAX, G + "g{a=\"\"}~{} 1\n");
     good(G + "g{a=\"123456789012\"} 1\n" + EOF);
     good(G + "g{a=\"12345678901\\n\"} 1\n" + EOF);
@@ -308,6 +351,8 @@ public final class ReadTest {
     fault(SYNTAX, G + "g{a=\"\",b=\"\",c=\"\",~");
     good(H + "h_bucket{a=\"\",b=\"\",z=\"\",le=\"+Inf\"} 1\nh_count{a=\"\",b=\"\",z=\"\"} 1\n"
         + "h_sum{a=\"\",b=\"\",z=\"\"} 1\n" + EOF);
+    fault(SYNTAX, H + "h_bucket{a=\"\",b=\"\",c=\"\",le=\"+Inf\",~");
+    fault(LABEL, H + "h_bucket{a=\"\",b=\"\",c=\"\",le=\"+Inf\",~d=\"\"} 1\n");
     fault(LABEL, H + "h_bucket{le=\"+Inf\",~z=\"\"} 1\n");
     fault(LABEL, H + "h_bucket{le=\"+Inf\",~le=\"+Inf\"} 1\n");
     fault(LABEL, H + "h_bucket{a=\"\",b=\"\",c=\"\",~d=\"\",le=\"+Inf\"} 1\n");
@@ -467,6 +512,9 @@ public final class ReadTest {
     fault(SYNTAX, start + "{}~1 1\n");
     fault(SYNTAX, start + "{} ~x\n");
     fault(SYNTAX, start + "{} 1~\n");
+    fault(SYNTAX, start + "{}~\n" + EOF);
+    fault(SYNTAX, start + "{} 1~\n" + EOF);
+    fault(SYNTAX, start + "~\n" + EOF);
     fault(SYNTAX, start + "{} 1 ~\n");
     fault(SYNTAX, start + "{} 1 1~ \n");
     fault(SYNTAX, start + "{} 1 1~");

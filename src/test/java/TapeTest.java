@@ -8,6 +8,7 @@ public final class TapeTest {
     pokeAtTheEnds();
     cutKeepsTheFirst();
     copyTakesWhatWasWritten();
+    copyOfJustAsMuch();
     copyRefusesWhatIsTooLong();
     Check.end();
   }
@@ -93,6 +94,19 @@ public final class TapeTest {
     Check.due("copy", 6, x.copy());
     Check.due("the tape is what was written", 0, x.read());
     Check.due("and no more", 6, Check.tapeSize(x));
+  }
+
+  private static void copyOfJustAsMuch() {
+    MeterSheet x = new MeterSheet();
+    Check.fillTo(x, 4000);
+    Check.due("4000 bytes are written", 4000, x.write(0, 0));
+    Check.due("4000 bytes are copied", 4000, x.copy());
+    Check.due("and read", 0, x.read());
+    Check.due("as the same", true, x.same());
+    MeterSheet y = new MeterSheet();
+    Check.fillTo(y, 4001);
+    Check.due("4001 bytes are written", 4001, y.write(0, 0));
+    Check.due("4001 bytes are not copied", -1, y.copy());
   }
 
   private static void copyRefusesWhatIsTooLong() {

@@ -121,38 +121,14 @@ public final class WriteTest {
     Check.due("it fits again", true, x.write(0, 0) > 4000);
   }
 
-  /** Helps of one byte more and more bring the text to 12000 bytes and beyond. */
   private static void justFits() {
     MeterSheet x = new MeterSheet();
-    Check.manyHistograms(x, 7);
-    int size = x.write(0, 0);
-    int f = 1;
-    while (12000 - size > 700) {
-      Check.child(x, 0, "x", "x" + f);
-      f++;
-      size = x.write(0, 0);
-    }
-    Check.family(x, Check.GAUGE, "g");
-    size = x.write(0, 0);
-    int n = 0;
-    while (12000 - size > 100) {
-      Check.child(x, 1, "a", "abcdefghijkl", "b", "abcdefghij" + (char) ('a' + n), "c", "abcdefghijkl");
-      n++;
-      size = x.write(0, 0);
-    }
-    int left = 12000 - size - "# TYPE k gauge\n".length() - "# HELP k \n".length();
-    StringBuilder help = new StringBuilder();
-    for (int k = 0; k < left / 2; k++) {
-      help.append('\\');
-    }
-    if (left % 2 == 1) {
-      help.append('a');
-    }
-    Check.family(x, Check.GAUGE, "k", "", help.toString());
+    Check.fillTo(x, 12000);
     Check.due("just 12000", 12000, x.write(0, 0));
     Check.due("its last byte", 10, x.text(11999));
-    x.set(Check.child(x, 1, "z", ""), 0);
-    Check.due("beyond", 0, x.write(0, 0));
+    MeterSheet y = new MeterSheet();
+    Check.fillTo(y, 12001);
+    Check.due("one more", 0, y.write(0, 0));
   }
 
   private static void whatWasRead() {
