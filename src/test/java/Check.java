@@ -16,16 +16,26 @@ final class Check {
 
   private static int asked = 0;
   private static int wrong = 0;
+  private static String words = "";
 
   interface Call {
     void run();
+  }
+
+  interface CallOn {
+    void run(MeterSheet x);
+  }
+
+  /** The document's words that the answers from here on are about: they are told with each wrong one. */
+  static void sentence(String ofTheDocument) {
+    words = ofTheDocument;
   }
 
   static void due(String what, Object want, Object got) {
     asked++;
     if (!want.equals(got)) {
       wrong++;
-      System.out.println(what + ": due is <" + want + ">, answered was <" + got + ">");
+      System.out.println("\"" + words + "\" " + what + ": due is <" + want + ">, answered was <" + got + ">");
     }
   }
 
@@ -41,6 +51,67 @@ final class Check {
       got = e.getClass();
     }
     due(what, want, got);
+  }
+
+  /**
+   * A call on the sheet of all kinds, with a text on the tape, that must throw: but for the tape, which is used up or
+   * stays, all must be as on another such sheet on which it was not called.
+   */
+  static void refused(String what, Class<?> want, String tape, boolean usedUp, CallOn call) {
+    MeterSheet control = ofAllKinds();
+    tape(control, usedUp ? "" : tape);
+    MeterSheet tried = ofAllKinds();
+    tape(tried, tape);
+    dueThrow(what, want, () -> call.run(tried));
+    due(what + " changes nothing", all(control), all(tried));
+  }
+
+  /**
+   * A sheet with a counter c_s, a gauge g, a histogram h, an info i, a stateset s, each with a child of the same number,
+   * a histogram e and a stateset t without anything, a common label m, and one gauge that was read and written.
+   */
+  static MeterSheet ofAllKinds() {
+    MeterSheet x = new MeterSheet();
+    family(x, COUNTER, "c_s", "s", "help");
+    family(x, GAUGE, "g");
+    family(x, HISTOGRAM, "h");
+    family(x, INFO, "i");
+    family(x, STATESET, "s");
+    family(x, HISTOGRAM, "e");
+    family(x, STATESET, "t");
+    x.bound(2, 1000);
+    x.bound(2, 2500);
+    state(x, 4, "on");
+    state(x, 4, "off");
+    for (int k = 0; k < 5; k++) {
+      child(x, k);
+    }
+    x.tick(7);
+    add(x, 0, 2500, "t", "1");
+    x.set(1, -5);
+    observe(x, 2, 1000, "t", "");
+    x.turn(4, 1, true);
+    common(x, "m", "1");
+    x.cap(3, 1);
+    read(x, "# TYPE r gauge\nr 1\n# EOF\n");
+    x.write(1, 1);
+    return x;
+  }
+
+  /** All that can be seen of a sheet: last, by a child that is made and by reading, the common label and the tape. */
+  static String all(MeterSheet x) {
+    StringBuilder out = new StringBuilder(latest(x));
+    out.append("tape ").append(tapeSize(x)).append(" place ").append(x.place()).append(" time ").append(x.tick(0));
+    for (int which = 0; which < 2; which++) {
+      out.append(" sheet ").append(x.look(which, 0)).append(' ').append(x.look(which, 1)).append(' ')
+          .append(x.look(which, 2));
+    }
+    for (int k = 0; k < x.look(0, 0); k++) {
+      out.append(" family ").append(x.familyOf(0, k, 5)).append(' ').append(x.familyOf(0, k, 6));
+    }
+    out.append('\n').append(written(x, 1, 0)).append(x.read()).append(" at ").append(x.place()).append('\n');
+    out.append(child(x, 1, "probe", "")).append('\n').append(written(x, 0, 0));
+    return out.toString();
   }
 
   /** Tells what was asked, and ends with 1 if an answer was wrong. */
@@ -126,23 +197,36 @@ final class Check {
     }
   }
 
-  /** Fills a new sheet so that its text of form 0 has just so many bytes, 2000 at least. */
-  static void fillTo(MeterSheet x, int size) {
+  /** Fills a new sheet so that its text has just so many bytes in a form, 2000 at least. */
+  static void fillTo(MeterSheet x, int size, int form) {
     manyHistograms(x, 1);
     int g = family(x, GAUGE, "g");
-    for (int n = 2; size - x.write(0, 0) > 1500; n++) {
+    for (int n = 2; size - x.write(0, form) > 1500; n++) {
       manyHistograms(x, n);
     }
-    for (char c = 'a'; size - x.write(0, 0) > 200; c++) {
+    for (char c = 'a'; size - x.write(0, form) > 200; c++) {
       child(x, g, "a", "\\".repeat(12), "b", "\\".repeat(11) + c, "c", "\\".repeat(12));
     }
-    int left = size - x.write(0, 0) - 2 * "# TYPE k gauge\n# HELP k \n".length();
+    int left = size - x.write(0, form) - 2 * "# TYPE k gauge\n# HELP k \n".length();
     family(x, GAUGE, "k", "", helpWritten(left / 2));
     family(x, GAUGE, "m", "", helpWritten(left - left / 2));
   }
 
   private static String helpWritten(int bytes) {
     return "\\".repeat(bytes / 2) + "a".repeat(bytes % 2);
+  }
+
+  /** What was written latest: it goes up to the first place at which text has none. */
+  static String latest(MeterSheet x) {
+    StringBuilder out = new StringBuilder();
+    try {
+      for (int k = 0; k < 12000; k++) {
+        out.append((char) (x.text(k) & 255));
+      }
+    } catch (NoSuchElementException e) {
+      return out.toString();
+    }
+    return out.toString();
   }
 
   static String written(MeterSheet x, int which, int form) {
