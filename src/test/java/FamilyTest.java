@@ -253,7 +253,8 @@ public final class FamilyTest {
 
   /** Each two kinds, and each end behind the one name or the other. */
   private static void ownNames() {
-    Check.sentence("COUNTER with _total, _created behind it; HISTOGRAM with _bucket, _count, _sum, _created; INFO with _info.");
+    Check.sentence("COUNTER with _total, _created behind it; HISTOGRAM with _bucket, _count, _sum, _created; INFO with _info. "
+        + "No two families have an own name in common.");
     String[] ends = {"", "_total", "_created", "_bucket", "_count", "_sum", "_info", "_gauge", "_tota", "_total_created",
         "_created_total", "_count_sum", "b", "_totals"};
     for (int kind = 0; kind < 5; kind++) {

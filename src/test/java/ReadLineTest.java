@@ -90,6 +90,12 @@ public final class ReadLineTest {
     Check.due("a text that ends behind UNIT", "1 at 32", Check.read(x, B + "# UNIT b_s s\n"));
     Check.due("no HELP behind nothing", "5 at 0", Check.read(x, "# HELP b_s a\n"));
     Check.due("no sample behind nothing", "5 at 0", Check.read(x, "b_s_total 1\n"));
+    Check.due("a fault in the line behind TYPE", "1 at 19", Check.read(x, Reading.A + "# X\n"));
+    Check.due("no UNIT behind nothing, again", "5 at 0", Check.read(x, "# UNIT a a\n"));
+    Check.due("a fault in the line behind UNIT", "1 at 34", Check.read(x, B + "# UNIT b_s s\n# X\n"));
+    Check.due("no HELP behind nothing, again", "5 at 0", Check.read(x, "# HELP b_s a\n"));
+    Check.due("a fault in a sample's number", "1 at 25", Check.read(x, Reading.A + "a_total !"));
+    Check.due("no sample behind nothing, again", "5 at 0", Check.read(x, "a_created 1\n"));
     Check.due("a child that is not whole", "1 at 41", Check.read(x, Reading.H + Reading.INF + "1\n"));
     Check.due("an end behind nothing", "0 at -1", Check.read(x, Reading.EOF));
     for (int k = 0; k < 2; k++) {

@@ -102,6 +102,9 @@ public final class ReadValueTest {
     fault(Reading.BUCKETS, first + second + "~1.5\"} 1\n");
     fault(Reading.BUCKETS, first + second + "~+Inf\"} 1\n");
     fault(Reading.BUCKETS, first + second + third + "~3\"} 1\n");
+    fault(Reading.BUCKETS, H + "h_bucket{le=\"-1\"} 1\n" + INF + "1\n" + TAIL + "h_bucket{a=\"\",le=\"-1\"} 1\n"
+        + "h_bucket{a=\"\",le=\"~0\"} 1\n");
+    fault(Reading.BUCKETS, H + INF + "1\n" + TAIL + "h_bucket{a=\"\",le=\"~0\"} 1\n");
     fault(Reading.VALUE, first + "~x\"} 1\n");
     fault(Reading.BUCKETS, H + INF + "1\n" + TAIL + "h_bucket{a=\"\",le=\"~1\"} 1\n");
     String other = "# TYPE k histogram\nk_bucket{le=\"7\"} 1\nk_bucket{le=\"+Inf\"} 1\nk_count 1\nk_sum 1\n";

@@ -17,6 +17,7 @@ public final class WriteTest {
     wrongArguments();
     tooLong();
     justFits();
+    tooLongAtAnyByte();
     whatWasRead();
     textInEights();
     textThatIsNotThere();
@@ -74,7 +75,7 @@ public final class WriteTest {
   }
 
   private static void formOne() {
-    Check.sentence("WRITING, form 1: as form 0, but no UNIT line, no line # EOF, no name_created, no exemplars");
+    Check.sentence("a COUNTER is called name_total in both lines, an INFO name_info; INFO and STATESET have the kind gauge.");
     Check.due("form 1", "# HELP req_s_total q \" b \\\\ n \\n.\n# TYPE req_s_total counter\n"
         + "req_s_total{a=\"\",b=\"\\\"\\\\\\n\"} 2.5\n"
         + "# TYPE g gauge\ng -1.234\n"
@@ -94,6 +95,7 @@ public final class WriteTest {
     MeterSheet x = new MeterSheet();
     Check.due("without families", 6, x.write(0, 0));
     Check.due("it is all there is", "# EOF\n", Check.latest(x));
+    Check.sentence("WRITING, form 1: as form 0, but no UNIT line, no line # EOF, no name_created, no exemplars");
     Check.due("nothing in form 1", 0, x.write(0, 1));
     Check.dueThrow("nothing at all", Check.NO_ELEMENT, () -> x.text(0));
     for (int kind = 0; kind < 5; kind++) {
@@ -323,6 +325,33 @@ public final class WriteTest {
       Check.due("one more", 0, y.write(0, form));
       Check.dueThrow("nothing is there", Check.NO_ELEMENT, () -> y.text(0));
       Check.due("the other form", form == 0, y.write(0, 1 - form) > 10000);
+    }
+  }
+
+  /** A family with long names that comes last, with a unit, or with states and a child. */
+  private static void addLast(MeterSheet x, boolean ofStates) {
+    int last = Check.family(x, ofStates ? Check.STATESET : Check.GAUGE, "name_of_24_bytes_ends_in", ofStates ? "" : "ends_in",
+        "help");
+    if (ofStates) {
+      Check.state(x, last, "on");
+      Check.child(x, last, "abcdefgh", "123456789012");
+    }
+  }
+
+  private static void tooLongAtAnyByte() {
+    Check.sentence("0 when there would be more than 12000 (nothing that was written is there then).");
+    for (int kind = 0; kind < 4; kind++) {
+      int form = kind % 2;
+      MeterSheet alone = new MeterSheet();
+      int before = alone.write(0, form);
+      addLast(alone, kind > 1);
+      int size = alone.write(0, form) - before;
+      for (int over = 0; over <= size + 1; over++) {
+        MeterSheet x = new MeterSheet();
+        Check.fillTo(x, 12000 + over - size, form);
+        addLast(x, kind > 1);
+        Check.due("form " + form + " of " + (12000 + over), over == 0 ? 12000 : 0, x.write(0, form));
+      }
     }
   }
 
