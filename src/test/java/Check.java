@@ -68,7 +68,8 @@ final class Check {
 
   /**
    * A sheet with a counter c_s, a gauge g, a histogram h, an info i, a stateset s, each with a child of the same number,
-   * a histogram e and a stateset t without anything, a common label m, and one gauge that was read and written.
+   * a histogram e and a stateset t without anything, exemplars that are old, a common label m, and one gauge that was
+   * read and written.
    */
   static MeterSheet ofAllKinds() {
     MeterSheet x = new MeterSheet();
@@ -91,6 +92,7 @@ final class Check {
     x.set(1, -5);
     observe(x, 2, 1000, "t", "");
     x.turn(4, 1, true);
+    x.tick(1500);
     common(x, "m", "1");
     x.cap(3, 1);
     read(x, "# TYPE r gauge\nr 1\n# EOF\n");

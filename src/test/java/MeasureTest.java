@@ -178,12 +178,19 @@ public final class MeasureTest {
     Check.sentence("it is kept by a counter, with v and the time, if it has none, or one that is 1000 thousandths old or older.");
     int[] ages = {0, 1, 999, 1000, 1001, Integer.MAX_VALUE};
     for (int age : ages) {
-      MeterSheet x = Check.ofAllKinds();
+      MeterSheet x = new MeterSheet();
+      Check.family(x, Check.COUNTER, "c");
+      Check.family(x, Check.HISTOGRAM, "h");
+      Check.child(x, 0);
+      Check.child(x, 1);
+      x.tick(7);
+      Check.add(x, 0, 2500, "t", "1");
+      Check.observe(x, 1, 1000, "t", "");
       x.tick(age);
-      Check.add(x, C, 9, "zz", "12");
-      exemplar(x, C, 0, age < 1000 ? "1 2500 7 4" : "1 9 " + (7L + age) + " 6");
-      Check.observe(x, H, 9, "zz", "12");
-      exemplar(x, H, 0, age < 1000 ? "1 1000 7 3" : "1 9 " + (7L + age) + " 6");
+      Check.add(x, 0, 9, "zz", "12");
+      exemplar(x, 0, 0, age < 1000 ? "1 2500 7 4" : "1 9 " + (7L + age) + " 6");
+      Check.observe(x, 1, 9, "zz", "12");
+      exemplar(x, 1, 0, age < 1000 ? "1 1000 7 3" : "1 9 " + (7L + age) + " 6");
     }
   }
 
@@ -229,6 +236,8 @@ public final class MeasureTest {
     x.observe(H, 1, false);
     Check.due("without one it stays", 3, Check.tapeSize(x));
     Check.add(x, C, 1, "a", "1");
+    Check.due("a counter uses it up", 0, Check.tapeSize(x));
+    Check.add(x, C, 1, "b", "1");
     Check.due("a counter that keeps its own uses it up", 0, Check.tapeSize(x));
     Check.add(x, G, 1, "a", "1");
     Check.due("a gauge uses it up", 0, Check.tapeSize(x));
@@ -458,6 +467,6 @@ public final class MeasureTest {
     for (int ms : new int[] {-1, -7, Integer.MIN_VALUE}) {
       Check.refused("tick " + ms, Check.ARGUMENT, "abc", false, x -> x.tick(ms));
     }
-    Check.due("0 is not", 7, Check.ofAllKinds().tick(0));
+    Check.due("0 is not", 1507, Check.ofAllKinds().tick(0));
   }
 }

@@ -78,7 +78,7 @@ public final class TapeTest {
         + Check.tapeSize(y) + " " + y.copy());
     y.tick(99);
     Check.family(y, Check.INFO, "y");
-    Check.due("and nothing of that comes back", "7 7", x.look(0, 0) + " " + x.tick(0));
+    Check.due("and nothing of that comes back", "7 1507", x.look(0, 0) + " " + x.tick(0));
   }
 
   private static void feedPutsLowestBytesFirst() {
